@@ -1380,7 +1380,7 @@ public final class TwigPatch {
         }
     }
 
-    /** Steps in a row; those beyond the most are counted alone, so that the script is known to be too long. */
+    /** Steps in a row; one beyond the most is counted alone, so that the script is known to be too long. */
     private static final class Script {
         private final Step[] steps;
         private int count;
@@ -1436,10 +1436,10 @@ public final class TwigPatch {
         Script findScript(Tree old, Tree young) {
             Script script = new Script(MOST_STEPS);
             copy.takeOver(old);
-            for (int place = 0; place < young.count; place++) {
+            for (int place = 0; place < young.count && !script.isTooLong(); place++) {
                 updateTwin(old, young, place, script);
             }
-            for (int place = 1; place < young.count; place++) {
+            for (int place = 1; place < young.count && !script.isTooLong(); place++) {
                 bringTwin(young, place, script);
             }
             removeOthers(young, script);
@@ -1495,7 +1495,7 @@ public final class TwigPatch {
                 order.put(i, mark);
                 mark = copy.nextInOrder(mark, copy.root);
             }
-            for (int i = nodes - 1; i >= 0; i--) {
+            for (int i = nodes - 1; i >= 0 && !script.isTooLong(); i--) {
                 mark = order.at(i);
                 if (kept.at(mark) == 0) {
                     script.add(new Step(REMOVE, mark, copy.worthOf(mark), NONE, copy.spotOf(mark), nowhere));
