@@ -300,17 +300,17 @@ public final class TwigPatch {
     // ---- conflicts, history
 
     public int conflicts() {
-        return merger.conflictCount;
+        return merger.conflictKinds.used;
     }
 
     public int conflictKind(int conflict) throws IndexOutOfBoundsException {
         needConflict(conflict);
-        return merger.kindOfConflict(conflict);
+        return merger.conflictKinds.at(conflict);
     }
 
     public int conflictMark(int conflict) throws IndexOutOfBoundsException {
         needConflict(conflict);
-        return merger.markOfConflict(conflict);
+        return merger.conflictMarks.at(conflict);
     }
 
     public int versions() {
@@ -366,25 +366,27 @@ public final class TwigPatch {
     // ---- what the calls need
 
     private Tree needTree(int number) {
-        if (number < 0 || number >= treeCount) {
+        Tree it = number >= 0 && number < treeCount && number < forest.length ? forest[number] : null;
+        if (it == null) {
             throw new IndexOutOfBoundsException("there is no such tree");
         }
-        return forest[number];
+        return it;
     }
 
     private Script needScript(int number) {
-        if (number < 0 || number >= scriptCount) {
+        Script it = number >= 0 && number < scriptCount && number < scripts.length ? scripts[number] : null;
+        if (it == null) {
             throw new IndexOutOfBoundsException("there is no such script");
         }
-        return scripts[number];
+        return it;
     }
 
     private Step needStep(int script, int number) {
-        Script it = needScript(script);
-        if (number < 0 || number >= it.count) {
+        Step it = needScript(script).stepOrNull(number);
+        if (it == null) {
             throw new IndexOutOfBoundsException("there is no such step");
         }
-        return it.steps[number];
+        return it;
     }
 
     private void needVersion(int number) {
@@ -400,7 +402,7 @@ public final class TwigPatch {
     }
 
     private void needConflict(int number) {
-        if (number < 0 || number >= merger.conflictCount) {
+        if (number < 0 || number >= merger.conflictKinds.used) {
             throw new IndexOutOfBoundsException("there is no such conflict");
         }
     }
@@ -531,9 +533,12 @@ public final class TwigPatch {
         return second != NONE && treeOfVersion(second).hasSame(tree, mark) ? second : NONE;
     }
 
-    /** A row of numbers that looks at each index before it uses it; outside of it there is NONE. */
+    /**
+     * A row of numbers that looks at each index before it uses it; outside of it there is NONE. What
+     * is pushed comes to the end of what was pushed since it was cleared, and the row grows for it.
+     */
     private static final class Row {
-        private final int[] cells;
+        private int[] cells;
         private int used;
 
         Row(int length) {
@@ -561,6 +566,9 @@ public final class TwigPatch {
         }
 
         void push(int number) {
+            if (used >= cells.length) {
+                cells = Arrays.copyOf(cells, 2 * cells.length + 1);
+            }
             put(used, number);
             used++;
         }
@@ -1396,22 +1404,32 @@ public final class TwigPatch {
             count++;
         }
 
+        Step stepOrNull(int number) {
+            return number >= 0 && number < count && number < steps.length ? steps[number] : null;
+        }
+
         boolean isTooLong() {
             return count > steps.length;
         }
 
         Script turnedBack() {
             Script back = new Script(count);
-            for (int i = count - 1; i >= 0 && i < steps.length; i--) {
-                back.add(steps[i].turnedBack());
+            for (int i = count - 1; i >= 0; i--) {
+                Step step = stepOrNull(i);
+                if (step != null) {
+                    back.add(step.turnedBack());
+                }
             }
             return back;
         }
 
         int playOn(Bush bush) {
             int fuzz = 0;
-            for (int i = 0; i < count && i < steps.length; i++) {
-                fuzz += steps[i].playOn(bush);
+            for (int i = 0; i < count; i++) {
+                Step step = stepOrNull(i);
+                if (step != null) {
+                    fuzz += step.playOn(bush);
+                }
             }
             return fuzz;
         }
@@ -1437,7 +1455,7 @@ public final class TwigPatch {
             Script script = new Script(MOST_STEPS);
             copy.takeOver(old);
             for (int place = 0; place < young.count && !script.isTooLong(); place++) {
-                updateTwin(old, young, place, script);
+                nameTwin(old, young, place, script);
             }
             for (int place = 1; place < young.count && !script.isTooLong(); place++) {
                 bringTwin(young, place, script);
@@ -1446,14 +1464,13 @@ public final class TwigPatch {
             return script;
         }
 
-        private void updateTwin(Tree old, Tree young, int place, Script script) {
+        private void nameTwin(Tree old, Tree young, int place, Script script) {
             int oldPlace = matching.oldOf(place);
             int mark = old.markOf(oldPlace);
             twins.put(place, mark);
             int before = old.worthOf(oldPlace);
             int after = young.worthOf(place);
             if (oldPlace != NONE && before != after) {
-                copy.give(mark, after);
                 script.add(new Step(UPDATE, mark, before, after, nowhere, nowhere));
             }
         }
@@ -1521,25 +1538,17 @@ public final class TwigPatch {
         private final Row baseOrder = new Row(MOST_MARKS);
         private final Row leftOrder = new Row(MOST_MARKS);
         private final Row rightOrder = new Row(MOST_MARKS);
-        private int[] conflictKinds = new int[FIRST_ROOM];
-        private int[] conflictMarks = new int[FIRST_ROOM];
-        private int conflictCount;
+        private final Row conflictKinds = new Row(FIRST_ROOM);
+        private final Row conflictMarks = new Row(FIRST_ROOM);
 
         Merger(Marks marks, Bush result) {
             this.marks = marks;
             this.result = result;
         }
 
-        int kindOfConflict(int number) {
-            return number >= 0 && number < conflictCount ? conflictKinds[number] : NONE;
-        }
-
-        int markOfConflict(int number) {
-            return number >= 0 && number < conflictCount ? conflictMarks[number] : NONE;
-        }
-
         Tree mergeTrees(Tree base, Tree left, Tree right) {
-            conflictCount = 0;
+            conflictKinds.clear();
+            conflictMarks.clear();
             for (int mark = 0; mark < marks.made; mark++) {
                 decide(base, left, right, mark);
             }
@@ -1564,13 +1573,8 @@ public final class TwigPatch {
         }
 
         private void list(int kind, int mark) {
-            if (conflictCount >= conflictKinds.length) {
-                conflictKinds = Arrays.copyOf(conflictKinds, 2 * conflictCount);
-                conflictMarks = Arrays.copyOf(conflictMarks, 2 * conflictCount);
-            }
-            conflictKinds[conflictCount] = kind;
-            conflictMarks[conflictCount] = mark;
-            conflictCount++;
+            conflictKinds.push(kind);
+            conflictMarks.push(mark);
         }
 
         // ---- which marks are in, with which values and parents

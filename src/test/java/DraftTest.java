@@ -170,6 +170,8 @@ public final class DraftTest {
         Check.state(x, "below itself", () -> x.move(1, 2, 0));
         x.seal();
         Check.tree("the draft", x, 0, "0:0(1:1(2:2) 3:3)");
+        Check.draft(x, "0.0(1.1(2.2))");
+        Check.state(x, "the root below all there is", () -> x.move(4, 6, 0));
     }
 
     private static void drops() {

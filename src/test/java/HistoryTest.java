@@ -7,6 +7,7 @@ public final class HistoryTest {
         makesWrongly();
         merges();
         mergesOverTheGreatest();
+        mergesOverWhatBothHave();
         mergesWhatIsBehind();
         mergesWrongly();
         takesBack();
@@ -110,6 +111,22 @@ public final class HistoryTest {
         x.mergeVersions(5, 6);
         Check.tree("over 3", x, x.treeOf(7), "0:0(1:2)");
         Check.is("conflicts", Check.conflicts(x), "VALUE 1");
+    }
+
+    private static void mergesOverWhatBothHave() {
+        TwigPatch x = new TwigPatch();
+        x.version(Check.grow(x, "0.0(1.1)"), NONE, NONE);
+        x.set(1, 2);
+        x.version(x.seal(), 0, NONE);
+        x.version(1, 0, NONE);
+        x.set(1, 3);
+        x.version(x.seal(), 1, NONE);
+        // 3 comes behind 1, but 2 does not: over 0 both have changed the value.
+        x.mergeVersions(2, 3);
+        Check.is("conflicts", Check.conflicts(x), "VALUE 1");
+        x.mergeVersions(3, 2);
+        Check.is("conflicts", Check.conflicts(x), "VALUE 1");
+        Check.tree("by the base", x, x.treeOf(5), "0:0(1:1)");
     }
 
     private static void mergesWhatIsBehind() {

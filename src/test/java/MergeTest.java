@@ -20,6 +20,7 @@ public final class MergeTest {
         orders();
         ordersThatAgree();
         ordersByPolicy();
+        ordersOfOthers();
         ordersOfFewer();
         others();
         othersOfBoth();
@@ -295,6 +296,26 @@ public final class MergeTest {
                 "0:0(2:2 1:1 3:3 4:4)");
         merged(x, base, right, left, "ORDER 0", "0:0(1:1 2:2 3:3 4:4)", "0:0(2:2 1:1 3:3 4:4)",
                 "0:0(3:3 4:4 1:1 2:2)");
+    }
+
+    /** The orders agree but for one child that each side alone has there. */
+    private static void ordersOfOthers() {
+        TwigPatch x = new TwigPatch();
+        int base = Check.grow(x, "0.0(1.1 1.2 1.3 1.4)");
+        x.drop(2);
+        x.set(1, 9);
+        x.move(4, 0, 1);
+        int left = x.seal();
+        Check.tree("left", x, left, "0:0(1:9 4:4 3:3)");
+        x.copy(base);
+        x.drop(1);
+        x.set(2, 9);
+        x.move(4, 0, 1);
+        int right = x.seal();
+        Check.tree("right", x, right, "0:0(2:9 4:4 3:3)");
+        symmetric(x, base, left, right, "GONE 1, GONE 2, ORDER 0", "0:0(1:9 2:9 3:3 4:4)");
+        x.setPolicy(TwigPatch.ORDER, TwigPatch.RIGHT);
+        Check.tree("by the right one", x, x.merge(base, left, right), "0:0(1:9 2:9 4:4 3:3)");
     }
 
     /** Children that the side whose order is taken does not have there come behind those of the base. */
