@@ -178,7 +178,9 @@ public final class LimitTest {
         }
         x.merge(base, left, x.seal());
         Check.is("a conflict each", x.conflicts(), 79);
-        Check.is("the last", x.conflictMark(78), 79);
-        Check.is("of the kind", x.conflictKind(78), TwigPatch.VALUE);
+        for (int i = 0; i < 79; i++) {
+            Check.is("the mark", x.conflictMark(i), i + 1);
+            Check.is("the kind", x.conflictKind(i), TwigPatch.VALUE);
+        }
     }
 }

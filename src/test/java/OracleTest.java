@@ -344,13 +344,45 @@ public final class OracleTest {
         } else if (choice < 20) {
             both("version(" + a + ", " + v + ", " + w + ")", () -> x.version(a, v, w), () -> m.version(a, v, w));
         } else if (choice < 23) {
-            askMerge(both("mergeVersions(" + v + ", " + w + ")", () -> x.mergeVersions(v, w),
-                    () -> m.mergeVersions(v, w)));
+            askMergeVersions(likely(v, w), w);
         } else if (choice < 26) {
-            askMerge(both("takeBack(" + v + ", " + w + ")", () -> x.takeBack(v, w), () -> m.takeBack(v, w)));
+            askTakeBack(earlier(v, w), w);
         } else {
             askHistory(v, w);
         }
+    }
+
+    /** A version whose tree has the same root as that of another one, if there is one at hand. */
+    private int likely(int version, int like) {
+        int v = version;
+        for (int i = 0; i < 8 && like >= 0 && like < m.versions.size() && !m.versions.isEmpty(); i++) {
+            if (v >= 0 && v < m.versions.size() && v != like && root(v) == root(like)) {
+                return v;
+            }
+            v = versionNumber();
+        }
+        return v;
+    }
+
+    private int root(int version) {
+        return m.trees.get(m.versions.get(version)[0]).mark;
+    }
+
+    private int earlier(int version, int head) {
+        if (head < 0 || head >= m.versions.size() || m.past(head).isEmpty() || sometimes(6)) {
+            return version;
+        }
+        Integer[] past = m.past(head).toArray(new Integer[0]);
+        return likely(past[below(past.length)], head);
+    }
+
+    private void askMergeVersions(int v, int w) {
+        askMerge(both("mergeVersions(" + v + ", " + w + ")", () -> x.mergeVersions(v, w),
+                () -> m.mergeVersions(v, w)));
+    }
+
+    private void askTakeBack(int v, int w) {
+        askMerge(both("takeBack(" + v + ", " + w + ")", () -> x.takeBack(v, w), () -> m.takeBack(v, w)));
     }
 
     // ---- questions
