@@ -16,7 +16,7 @@ public final class ApplyTest {
         Check.end();
     }
 
-    private static void applied(TwigPatch x, int script, int tree, String due, int fuzz) {
+    private static void applied(Shop x, int script, int tree, String due, int fuzz) {
         int before = x.trees();
         Check.is("the number", x.apply(script, tree), before);
         Check.tree("the tree", x, before, due);
@@ -24,7 +24,7 @@ public final class ApplyTest {
     }
 
     private static void updates() {
-        TwigPatch x = new TwigPatch();
+        Shop x = new Shop();
         int one = Check.grow(x, "0.0(1.1 1.2)");
         x.set(1, 5);
         x.set(2, 6);
@@ -40,7 +40,7 @@ public final class ApplyTest {
 
     /** A script that puts 4 between 1 and 2, and trees in which these stand otherwise. */
     private static void puts() {
-        TwigPatch x = new TwigPatch();
+        Shop x = new Shop();
         int one = Check.grow(x, "0.0(1.1 1.2 1.3)");
         x.node(0, 1, 2, 9, NONE);
         int two = x.seal();
@@ -73,7 +73,7 @@ public final class ApplyTest {
 
     /** What is told as none is no fuzz, whatever stands there; and without a parent the step is dropped. */
     private static void putsNowhere() {
-        TwigPatch x = new TwigPatch();
+        Shop x = new Shop();
         int one = Check.grow(x, "0.0(1.1)");
         x.node(1, 0, 2, 9, NONE);
         int script = x.find(one, x.seal());
@@ -88,7 +88,7 @@ public final class ApplyTest {
     }
 
     private static void moves() {
-        TwigPatch x = new TwigPatch();
+        Shop x = new Shop();
         int one = Check.grow(x, "0.0(1.1 1.2 1.3 1.4)");
         x.move(1, 0, 2);
         int script = x.find(one, x.seal());
@@ -112,7 +112,7 @@ public final class ApplyTest {
     }
 
     private static void movesDropped() {
-        TwigPatch x = new TwigPatch();
+        Shop x = new Shop();
         int one = Check.grow(x, "0.0(1.1 1.2(1.3))");
         x.move(1, 3, 0);
         int script = x.find(one, x.seal());
@@ -131,7 +131,7 @@ public final class ApplyTest {
     }
 
     private static void removes() {
-        TwigPatch x = new TwigPatch();
+        Shop x = new Shop();
         int one = Check.grow(x, "0.0(1.1 1.2 1.3)");
         x.drop(2);
         int script = x.find(one, x.seal());
@@ -149,7 +149,7 @@ public final class ApplyTest {
     }
 
     private static void withoutOrder() {
-        TwigPatch x = new TwigPatch();
+        Shop x = new Shop();
         int one = Check.grow(x, "4.0(1.1 1.2 1.3 0.4)");
         x.node(0, 0, 2, 9, NONE);
         x.move(2, 4, 0);
@@ -167,7 +167,7 @@ public final class ApplyTest {
 
     /** A PUT that comes of a REMOVE tells the neighbours that the removed one had. */
     private static void turnedRemoves() {
-        TwigPatch x = new TwigPatch();
+        Shop x = new Shop();
         int one = Check.grow(x, "0.0(1.1 1.2 1.3)");
         x.drop(1);
         x.drop(2);
@@ -183,7 +183,7 @@ public final class ApplyTest {
     }
 
     private static void tellsFuzz() {
-        TwigPatch x = new TwigPatch();
+        Shop x = new Shop();
         int one = Check.grow(x, "0.0(1.1 1.2)");
         x.set(1, 3);
         int script = x.find(one, x.seal());
@@ -199,7 +199,7 @@ public final class ApplyTest {
     }
 
     private static void wrongly() {
-        TwigPatch x = new TwigPatch();
+        Shop x = new Shop();
         int one = Check.grow(x, "0.0(1.1)");
         x.set(1, 2);
         int script = x.find(one, x.seal());

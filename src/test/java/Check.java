@@ -1,10 +1,13 @@
 import java.util.ArrayList;
+import java.util.Arrays;
 import java.util.List;
+import java.util.function.IntFunction;
 import java.util.function.Supplier;
 
 /** What the tests need: trees told as texts, and a word when an answer is not the one that is due. */
 final class Check {
     private static int wrong;
+    private static String name = "";
 
     private Check() {
     }
@@ -23,44 +26,77 @@ final class Check {
     static void is(String what, Object got, Object due) {
         if (!due.equals(got)) {
             wrong++;
-            System.out.println(what + " answered " + got + ", due is " + due);
+            System.out.println(name + what + " answered " + got + ", due is " + due);
         }
     }
 
-    /** The call has to throw just this exception, and to change nothing that can be seen. */
-    static void refused(TwigPatch x, String what, Class<?> due, Supplier<?> call) {
-        String before = portrait(x);
+    /** What the test finds wrong is told with this name; it is wrong, too, if the test can't go on. */
+    static void named(String test, Runnable run) {
+        name = test;
         try {
-            is(what, call.get(), due);
+            run.run();
         } catch (RuntimeException e) {
-            is(what, e.getClass(), due);
+            is("the test", e.toString(), "an answer");
         }
-        is("what is there after " + what, portrait(x), before);
+        name = "";
     }
 
-    static void index(TwigPatch x, String what, Supplier<?> call) {
+    /** Numbers beside those that are allowed: right beside them, at the ends, and such as come to be inside by wrapping. */
+    static int[] outside(int low, int high) {
+        int[] all = {low - 1, high + 1, Integer.MIN_VALUE, Integer.MAX_VALUE, Integer.MIN_VALUE + low, low + 256,
+            low + 65536, ~high - 1, -high - 2};
+        return Arrays.stream(all).filter(i -> i < low || i > high).distinct().toArray();
+    }
+
+    /** The call has to throw just this exception, and to change nothing that later calls show. */
+    static void refused(Shop x, String what, Class<?> due, Supplier<?> call) {
+        is(what, x.outcome(call), due);
+        is("what is told apart after " + what, x.difference(call), "");
+    }
+
+    static void index(Shop x, String what, Supplier<?> call) {
         refused(x, what, IndexOutOfBoundsException.class, call);
     }
 
-    static void argument(TwigPatch x, String what, Supplier<?> call) {
+    /** No number but those from low to high is taken for an index. */
+    static void indexes(Shop x, String what, int low, int high, IntFunction<?> call) {
+        for (int i : outside(low, high)) {
+            index(x, what + " " + i, () -> call.apply(i));
+        }
+    }
+
+    /** No number but those from low to high is taken for an argument. */
+    static void arguments(Shop x, String what, int low, int high, IntFunction<?> call) {
+        for (int i : outside(low, high)) {
+            argument(x, what + " " + i, () -> call.apply(i));
+        }
+    }
+
+    static void argument(Shop x, String what, Supplier<?> call) {
         refused(x, what, IllegalArgumentException.class, call);
     }
 
-    static void state(TwigPatch x, String what, Supplier<?> call) {
+    static void state(Shop x, String what, Supplier<?> call) {
         refused(x, what, IllegalStateException.class, call);
+    }
+
+    /** A question has to be answered so, and to change nothing that later calls show. */
+    static void asked(Shop x, String what, Object due, Supplier<?> call) {
+        is(what, x.outcome(call), due);
+        is("what is told apart after " + what, x.difference(call), "");
     }
 
     /**
      * Drafts and seals a tree: a node is told as kind.value, then #identity, if it has one, then its
      * children between brackets. Marks are given in the order of the text.
      */
-    static int grow(TwigPatch x, String text) {
+    static int grow(Shop x, String text) {
         draft(x, text);
         return x.seal();
     }
 
     /** Answers the mark of the root. */
-    static int draft(TwigPatch x, String text) {
+    static int draft(Shop x, String text) {
         List<Integer> open = new ArrayList<>();
         List<Integer> children = new ArrayList<>();
         int root = -1;
@@ -97,6 +133,13 @@ final class Check {
         return root;
     }
 
+    /** Begins so many drafts, that there are as many marks. */
+    static void begun(Shop x, int drafts) {
+        for (int i = 0; i < drafts; i++) {
+            x.begin(0, 0, TwigPatch.NONE);
+        }
+    }
+
     private static int[] looks(String word) {
         String[] parts = word.split("[.#]");
         return new int[] {Integer.parseInt(parts[0]), Integer.parseInt(parts[1]),
@@ -104,7 +147,7 @@ final class Check {
     }
 
     /** A tree as a text: each node as mark:value, its children between brackets. */
-    static String told(TwigPatch x, int tree) {
+    static String told(Shop x, int tree) {
         StringBuilder text = new StringBuilder();
         List<Integer> path = new ArrayList<>();
         for (int place = 0; place < x.size(tree); place++) {
@@ -131,12 +174,12 @@ final class Check {
         return text.toString();
     }
 
-    static void tree(String what, TwigPatch x, int tree, String due) {
+    static void tree(String what, Shop x, int tree, String due) {
         is(what, told(x, tree), due);
     }
 
     /** A script as a text, as far as it can be asked. */
-    static String script(TwigPatch x, int script) {
+    static String script(Shop x, int script) {
         StringBuilder text = new StringBuilder();
         for (int i = 0; i < x.steps(script); i++) {
             String[] kinds = {"update", "put", "move", "remove"};
@@ -153,31 +196,12 @@ final class Check {
     }
 
     /** The conflicts of the last merge as a text. */
-    static String conflicts(TwigPatch x) {
+    static String conflicts(Shop x) {
         StringBuilder text = new StringBuilder();
         String[] kinds = {"GONE", "VALUE", "PLACE", "LOST", "RING", "ORDER"};
         for (int i = 0; i < x.conflicts(); i++) {
             text.append(i > 0 ? ", " : "").append(kinds[x.conflictKind(i)]).append(' ').append(x.conflictMark(i));
         }
         return text.toString();
-    }
-
-    /** All that can be asked without changing anything. */
-    static String portrait(TwigPatch x) {
-        StringBuilder text = new StringBuilder();
-        for (int t = 0; t < x.trees(); t++) {
-            text.append("tree ").append(told(x, t)).append('\n');
-        }
-        for (int s = 0; s < 40; s++) {
-            try {
-                text.append("script ").append(script(x, s)).append('\n');
-            } catch (IndexOutOfBoundsException e) {
-                break;
-            }
-        }
-        for (int v = 0; v < x.versions(); v++) {
-            text.append("version ").append(x.treeOf(v)).append('\n');
-        }
-        return text.append(conflicts(x)).append('\n').append(x.fuzz()).toString();
     }
 }

@@ -18,7 +18,7 @@ public final class DraftTest {
     }
 
     private static void newObject() {
-        TwigPatch x = new TwigPatch();
+        Shop x = new Shop();
         Check.is("trees", x.trees(), 0);
         Check.is("versions", x.versions(), 0);
         Check.is("conflicts", x.conflicts(), 0);
@@ -36,7 +36,7 @@ public final class DraftTest {
     }
 
     private static void begins() {
-        TwigPatch x = new TwigPatch();
+        Shop x = new Shop();
         Check.argument(x, "kind -1", () -> x.begin(-1, 0, 0));
         Check.argument(x, "kind 6", () -> x.begin(6, 0, 0));
         Check.argument(x, "value -1", () -> x.begin(0, -1, 0));
@@ -54,7 +54,7 @@ public final class DraftTest {
     }
 
     private static void copies() {
-        TwigPatch x = new TwigPatch();
+        Shop x = new Shop();
         int tree = Check.grow(x, "0.1(1.2(2.3) 4.5(1.6 1.7))");
         Check.draft(x, "0.9(1.9)");
         Check.index(x, "copy(-1)", () -> x.copy(-1));
@@ -69,7 +69,7 @@ public final class DraftTest {
     }
 
     private static void adds() {
-        TwigPatch x = new TwigPatch();
+        Shop x = new Shop();
         x.begin(0, 0, NONE);
         Check.is("the first", x.node(0, 0, 1, 1, NONE), 1);
         Check.is("behind", x.node(0, 1, 1, 2, NONE), 2);
@@ -82,7 +82,7 @@ public final class DraftTest {
 
     private static void addsInOrder() {
         for (int kind = 4; kind <= 5; kind++) {
-            TwigPatch x = new TwigPatch();
+            Shop x = new Shop();
             x.begin(kind, 0, NONE);
             x.node(0, 0, 3, 1, NONE);
             x.node(0, 0, 3, 2, NONE);
@@ -96,7 +96,7 @@ public final class DraftTest {
     }
 
     private static void addsWrongly() {
-        TwigPatch x = new TwigPatch();
+        Shop x = new Shop();
         Check.grow(x, "0.0(4.1)");
         Check.draft(x, "0.0(3.1)");
         Check.index(x, "a mark of another tree", () -> x.node(0, 0, 0, 0, NONE));
@@ -118,7 +118,7 @@ public final class DraftTest {
     }
 
     private static void sets() {
-        TwigPatch x = new TwigPatch();
+        Shop x = new Shop();
         Check.draft(x, "0.5(1.6)");
         Check.is("set", x.set(1, 99), 6);
         Check.is("set once more", x.set(1, 0), 99);
@@ -133,7 +133,7 @@ public final class DraftTest {
     }
 
     private static void moves() {
-        TwigPatch x = new TwigPatch();
+        Shop x = new Shop();
         int tree = Check.grow(x, "0.0(1.1(2.2) 1.3 1.4 4.5(1.6))");
         x.copy(tree);
         Check.is("to the end, itself not counted", x.move(1, 0, 3), 0);
@@ -153,7 +153,7 @@ public final class DraftTest {
     }
 
     private static void movesWrongly() {
-        TwigPatch x = new TwigPatch();
+        Shop x = new Shop();
         Check.draft(x, "0.0(1.1(2.2) 1.3)");
         Check.index(x, "no such mark", () -> x.move(4, 0, 0));
         Check.index(x, "mark -1", () -> x.move(-1, 0, 0));
@@ -175,7 +175,7 @@ public final class DraftTest {
     }
 
     private static void drops() {
-        TwigPatch x = new TwigPatch();
+        Shop x = new Shop();
         Check.draft(x, "0.0(1.1(2.2(1.3) 2.4) 4.5(1.6 1.7))");
         Check.index(x, "no such mark", () -> x.drop(8));
         Check.index(x, "mark -1", () -> x.drop(-1));
@@ -191,7 +191,7 @@ public final class DraftTest {
     }
 
     private static void seals() {
-        TwigPatch x = new TwigPatch();
+        Shop x = new Shop();
         Check.draft(x, "0.0(1.1)");
         Check.is("the first tree", x.seal(), 0);
         Check.is("the draft stays", x.set(1, 2), 1);

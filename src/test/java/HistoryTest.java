@@ -23,7 +23,7 @@ public final class HistoryTest {
     }
 
     private static void makes() {
-        TwigPatch x = new TwigPatch();
+        Shop x = new Shop();
         int one = Check.grow(x, "0.0");
         int two = Check.grow(x, "0.0");
         Check.is("none yet", x.versions(), 0);
@@ -40,7 +40,7 @@ public final class HistoryTest {
     }
 
     private static void makesWrongly() {
-        TwigPatch x = new TwigPatch();
+        Shop x = new Shop();
         Check.grow(x, "0.0");
         x.version(0, NONE, NONE);
         Check.index(x, "no tree", () -> x.version(1, 0, NONE));
@@ -63,7 +63,7 @@ public final class HistoryTest {
     }
 
     private static void merges() {
-        TwigPatch x = new TwigPatch();
+        Shop x = new Shop();
         x.version(Check.grow(x, "0.0(1.1 1.2)"), NONE, NONE);
         x.set(1, 8);
         x.version(x.seal(), 0, NONE);
@@ -89,7 +89,7 @@ public final class HistoryTest {
     }
 
     private static void mergesOverTheGreatest() {
-        TwigPatch x = new TwigPatch();
+        Shop x = new Shop();
         x.version(Check.grow(x, "0.0(1.1)"), NONE, NONE);
         x.set(1, 2);
         x.version(x.seal(), 0, NONE);
@@ -114,7 +114,7 @@ public final class HistoryTest {
     }
 
     private static void mergesOverWhatBothHave() {
-        TwigPatch x = new TwigPatch();
+        Shop x = new Shop();
         x.version(Check.grow(x, "0.0(1.1)"), NONE, NONE);
         x.set(1, 2);
         x.version(x.seal(), 0, NONE);
@@ -130,7 +130,7 @@ public final class HistoryTest {
     }
 
     private static void mergesWhatIsBehind() {
-        TwigPatch x = new TwigPatch();
+        Shop x = new Shop();
         x.version(Check.grow(x, "0.0(1.1)"), NONE, NONE);
         x.set(1, 2);
         x.version(x.seal(), 0, NONE);
@@ -145,7 +145,7 @@ public final class HistoryTest {
     }
 
     private static void mergesWrongly() {
-        TwigPatch x = new TwigPatch();
+        Shop x = new Shop();
         x.version(Check.grow(x, "0.0"), NONE, NONE);
         x.version(0, NONE, NONE);
         x.version(Check.grow(x, "0.0"), 0, NONE);
@@ -169,7 +169,7 @@ public final class HistoryTest {
     }
 
     private static void fullOfTrees() {
-        TwigPatch x = new TwigPatch();
+        Shop x = new Shop();
         x.version(Check.grow(x, "0.0"), NONE, NONE);
         x.version(0, 0, NONE);
         x.version(0, 1, NONE);
@@ -183,7 +183,7 @@ public final class HistoryTest {
     }
 
     private static void takesBack() {
-        TwigPatch x = new TwigPatch();
+        Shop x = new Shop();
         x.version(Check.grow(x, "0.0(1.1 1.2 1.3)"), NONE, NONE);
         x.set(1, 9);
         x.drop(3);
@@ -216,7 +216,7 @@ public final class HistoryTest {
     }
 
     private static void takesBackMerges() {
-        TwigPatch x = new TwigPatch();
+        Shop x = new Shop();
         x.version(Check.grow(x, "0.0(1.1 1.2)"), NONE, NONE);
         x.set(1, 8);
         x.version(x.seal(), 0, NONE);
@@ -231,7 +231,7 @@ public final class HistoryTest {
     }
 
     private static void takesBackWrongly() {
-        TwigPatch x = new TwigPatch();
+        Shop x = new Shop();
         x.version(Check.grow(x, "0.0"), NONE, NONE);
         x.version(0, 0, NONE);
         x.version(0, 0, NONE);
@@ -249,7 +249,7 @@ public final class HistoryTest {
     }
 
     private static void tellsTouched() {
-        TwigPatch x = new TwigPatch();
+        Shop x = new Shop();
         x.version(Check.grow(x, "0.0(1.1 1.2 1.3)"), NONE, NONE);
         x.set(1, 9);
         x.version(x.seal(), 0, NONE);
@@ -279,7 +279,7 @@ public final class HistoryTest {
     }
 
     private static void tellsTouchedByParents() {
-        TwigPatch x = new TwigPatch();
+        Shop x = new Shop();
         int one = Check.grow(x, "0.0(1.1)");
         x.set(1, 5);
         int five = x.seal();
@@ -296,7 +296,7 @@ public final class HistoryTest {
     }
 
     private static void looks() {
-        TwigPatch x = new TwigPatch();
+        Shop x = new Shop();
         x.version(Check.grow(x, "0.0(1.1)"), NONE, NONE);
         for (int i = 1; i < 6; i++) {
             x.set(1, i < 3 ? 1 : 7);
@@ -317,7 +317,7 @@ public final class HistoryTest {
 
     /** What is there just for a while is found or not as the middle ones tell. */
     private static void looksByHalves() {
-        TwigPatch x = new TwigPatch();
+        Shop x = new Shop();
         int without = Check.grow(x, "0.0");
         x.set(0, 1);
         int with = x.seal();
@@ -346,7 +346,7 @@ public final class HistoryTest {
     }
 
     private static void looksByFirstParents() {
-        TwigPatch x = new TwigPatch();
+        Shop x = new Shop();
         int without = Check.grow(x, "0.0");
         x.set(0, 1);
         int with = x.seal();
@@ -361,7 +361,7 @@ public final class HistoryTest {
     }
 
     private static void looksWrongly() {
-        TwigPatch x = new TwigPatch();
+        Shop x = new Shop();
         int tree = Check.grow(x, "5.99");
         x.version(tree, NONE, NONE);
         x.version(tree, NONE, NONE);

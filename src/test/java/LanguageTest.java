@@ -7,10 +7,12 @@ import java.util.regex.Pattern;
 
 /** Those rules of ../shared/LANGUAGE.md that can be seen in the text of the program. */
 public final class LanguageTest {
-    private static final String[] FORBIDDEN = {"->", "::", "\\btry\\b", "\\bcatch\\b", "\\bfinally\\b",
-        "\\bsynchronized\\b", "\\bassert\\b", "\\bcase .*->", "\\bMath\\.\\w*Exact\\b", "\\bnew int\\[\\w+\\]\\[",
-        "\\bstatic final (float|double)\\b", "\\bstatic (?!final|class)(int|long|boolean)\\b[^(]*;", "\\bstatic \\{",
-        "\\b(equals|hashCode|toString|getMessage)\\(", "\\b(Random|System|Thread|File|Class)\\b", "\\?\\?", "\\bprotected\\b"};
+    private static final String[] FORBIDDEN = {"::", "\\bfinally\\b", "\\bsynchronized\\b", "\\bassert\\b",
+        "\\bMath\\.\\w*Exact\\b", "\\bstatic final (float|double)\\b",
+        "\\bstatic (?!final|class)(int|long|boolean)\\b[^(]*;", "\\bstatic \\{", "\\b(hashCode|getMessage)\\(",
+        "\\b(Random|Thread|File|Class)\\b", "\\bSystem\\.(?!arraycopy)", "\\bprotected\\b",
+        "\\bcatch \\([^)]*\\b(Array\\w+|NullPointerException|ClassCastException|NegativeArraySizeException|Exception|Throwable|Error)\\b",
+        "(?m)^(?!\\s*(case|default)\\b).*->", "\\bthrow (?!new (IllegalState|IllegalArgument|IndexOutOfBounds)Exception\\()"};
     private static final List<String> IMPORTS = List.of("java.util.ArrayList", "java.util.Arrays", "java.util.Iterator",
             "java.util.List", "java.util.NoSuchElementException");
 
@@ -27,7 +29,7 @@ public final class LanguageTest {
             Check.is("import of " + imports.group(1), IMPORTS.contains(imports.group(1)), true);
         }
         Matcher classes = Pattern.compile("\\b(class|interface|enum|record) \\w+").matcher(code);
-        Check.is("some twelve classes beside the one", classes.results().count() <= 13, true);
+        Check.is("some twelve classes", classes.results().count() <= 13, true);
         methods(code);
         Check.end();
     }
@@ -45,6 +47,6 @@ public final class LanguageTest {
             Check.is(heads.group(2) + " is short", lines <= 60, true);
             Check.is(heads.group(2) + " takes few", heads.group(3).split(",").length <= 7, true);
         }
-        Check.is("the methods were found", methods > 100, true);
+        Check.is("the methods were found", methods > 36, true);
     }
 }

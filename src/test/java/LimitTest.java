@@ -14,7 +14,7 @@ public final class LimitTest {
     }
 
     private static void fullDraft() {
-        TwigPatch x = new TwigPatch();
+        Shop x = new Shop();
         x.begin(0, 0, NONE);
         for (int i = 1; i < 24; i++) {
             Check.is("node", x.node(0, 0, 1, 0, NONE), i);
@@ -28,7 +28,7 @@ public final class LimitTest {
     }
 
     private static void marks() {
-        TwigPatch x = new TwigPatch();
+        Shop x = new Shop();
         for (int i = 0; i < 299; i++) {
             Check.is("begin", x.begin(0, 0, NONE), i);
         }
@@ -44,7 +44,7 @@ public final class LimitTest {
     }
 
     /** A tree of a root and as many nodes as are asked for, in merged bunches of 23. */
-    private static int bunch(TwigPatch x, int root, int nodes, int kind, int identity) {
+    private static int bunch(Shop x, int root, int nodes, int kind, int identity) {
         int tree = root;
         for (int left = nodes; left > 0; left -= 23) {
             x.copy(root);
@@ -57,7 +57,7 @@ public final class LimitTest {
     }
 
     private static void steps() {
-        TwigPatch x = new TwigPatch();
+        Shop x = new Shop();
         int root = Check.grow(x, "0.0");
         int hundred = bunch(x, root, 100, 1, NONE);
         Check.is("its size", x.size(hundred), 101);
@@ -78,7 +78,7 @@ public final class LimitTest {
     }
 
     private static void wide() {
-        TwigPatch x = new TwigPatch();
+        Shop x = new Shop();
         int root = Check.grow(x, "0.0");
         int all = bunch(x, root, 299, 2, NONE);
         Check.is("300 marks in one tree", x.size(all), 300);
@@ -97,7 +97,7 @@ public final class LimitTest {
     }
 
     private static void deep() {
-        TwigPatch x = new TwigPatch();
+        Shop x = new Shop();
         int root = Check.grow(x, "0.0");
         int tree = root;
         int last = 0;
@@ -133,7 +133,7 @@ public final class LimitTest {
 
     /** Two chains of new marks in merged trees, so deep that recursion would have to go far. */
     private static void deepAndAlike() {
-        TwigPatch x = new TwigPatch();
+        Shop x = new Shop();
         int one = chain(x, 6);
         int two = chain(x, 6);
         Check.is("the sizes", x.size(one), x.size(two));
@@ -143,7 +143,7 @@ public final class LimitTest {
         Check.is("no step", x.steps(x.find(one, two)), 0);
     }
 
-    private static int chain(TwigPatch x, int bunches) {
+    private static int chain(Shop x, int bunches) {
         int mark = x.begin(4, 0, NONE);
         int root = x.seal();
         int tree = root;
@@ -165,7 +165,7 @@ public final class LimitTest {
     }
 
     private static void manyConflicts() {
-        TwigPatch x = new TwigPatch();
+        Shop x = new Shop();
         int root = Check.grow(x, "0.0");
         int base = bunch(x, root, 138, 1, NONE);
         x.copy(base);

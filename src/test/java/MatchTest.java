@@ -19,8 +19,8 @@ public final class MatchTest {
      * Grows both trees, and compares with which node each old one is matched, in order; the numbers
      * of new nodes count from 0 for the new root.
      */
-    private static void matched(String old, String young, int... due) {
-        TwigPatch x = new TwigPatch();
+    static void matched(String old, String young, int... due) {
+        Shop x = new Shop();
         int from = Check.grow(x, old);
         int to = Check.grow(x, young);
         int shift = x.size(from);
@@ -31,7 +31,7 @@ public final class MatchTest {
     }
 
     private static void byMarks() {
-        TwigPatch x = new TwigPatch();
+        Shop x = new Shop();
         int one = Check.grow(x, "0.0(1.1#5 1.2(2.3))");
         x.copy(one);
         x.set(1, 9);
@@ -113,7 +113,7 @@ public final class MatchTest {
     }
 
     private static void likenessInTheEnd() {
-        TwigPatch x = new TwigPatch();
+        Shop x = new Shop();
         int old = Check.grow(x, "0.0(1.0(2.1 2.2) 3.3)");
         int young = Check.grow(x, "0.0(3.0(1.9(2.1 2.2 2.7)) 2.8)");
         Check.is("the roots", x.likeness(old, young, 0, 5), 2f * 4 / 10);
@@ -127,7 +127,7 @@ public final class MatchTest {
     }
 
     private static void wrongly() {
-        TwigPatch x = new TwigPatch();
+        Shop x = new Shop();
         Check.grow(x, "0.0(1.1)");
         Check.grow(x, "1.0(1.1)");
         Check.grow(x, "0.0#1(1.1)");

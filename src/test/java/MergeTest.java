@@ -31,7 +31,7 @@ public final class MergeTest {
     }
 
     /** Merges both ways round, under the policies in turn, as told. */
-    private static void merged(TwigPatch x, int base, int left, int right, String conflicts, String... due) {
+    private static void merged(Shop x, int base, int left, int right, String conflicts, String... due) {
         for (int i = 0; i < due.length; i++) {
             for (int kind : new int[] {TwigPatch.GONE, TwigPatch.VALUE, TwigPatch.PLACE, TwigPatch.ORDER}) {
                 x.setPolicy(kind, POLICIES[i]);
@@ -43,13 +43,13 @@ public final class MergeTest {
         }
     }
 
-    private static void symmetric(TwigPatch x, int base, int left, int right, String conflicts, String due) {
+    private static void symmetric(Shop x, int base, int left, int right, String conflicts, String due) {
         merged(x, base, left, right, conflicts, due);
         merged(x, base, right, left, conflicts, due);
     }
 
     private static void setsPolicies() {
-        TwigPatch x = new TwigPatch();
+        Shop x = new Shop();
         for (int kind : new int[] {TwigPatch.GONE, TwigPatch.VALUE, TwigPatch.PLACE, TwigPatch.ORDER}) {
             Check.is("at first", x.setPolicy(kind, TwigPatch.RIGHT), TwigPatch.NEITHER);
             Check.is("then", x.setPolicy(kind, TwigPatch.LEFT), TwigPatch.RIGHT);
@@ -63,7 +63,7 @@ public final class MergeTest {
     }
 
     private static void bothSides() {
-        TwigPatch x = new TwigPatch();
+        Shop x = new Shop();
         int base = Check.grow(x, "0.0(1.1 1.2(1.3) 1.4)");
         x.set(1, 9);
         x.move(4, 2, 0);
@@ -80,7 +80,7 @@ public final class MergeTest {
     }
 
     private static void leavesOut() {
-        TwigPatch x = new TwigPatch();
+        Shop x = new Shop();
         int base = Check.grow(x, "0.0(1.1 1.2(1.3 1.4) 1.5)");
         x.drop(1);
         x.drop(5);
@@ -104,7 +104,7 @@ public final class MergeTest {
     }
 
     private static void gone() {
-        TwigPatch x = new TwigPatch();
+        Shop x = new Shop();
         int base = Check.grow(x, "0.0(1.1 1.2(1.3))");
         x.drop(1);
         int left = x.seal();
@@ -123,7 +123,7 @@ public final class MergeTest {
     }
 
     private static void goneByPolicy() {
-        TwigPatch x = new TwigPatch();
+        Shop x = new Shop();
         int base = Check.grow(x, "0.0(1.1 1.2)");
         x.set(1, 9);
         x.move(1, 2, 0);
@@ -136,7 +136,7 @@ public final class MergeTest {
     }
 
     private static void values() {
-        TwigPatch x = new TwigPatch();
+        Shop x = new Shop();
         int base = Check.grow(x, "0.1(1.1)");
         x.set(1, 7);
         x.set(0, 5);
@@ -150,7 +150,7 @@ public final class MergeTest {
     }
 
     private static void valuesOfNew() {
-        TwigPatch x = new TwigPatch();
+        Shop x = new Shop();
         int base = Check.grow(x, "0.1");
         x.node(0, 0, 1, 2, NONE);
         x.node(0, 1, 1, 2, NONE);
@@ -162,7 +162,7 @@ public final class MergeTest {
     }
 
     private static void places() {
-        TwigPatch x = new TwigPatch();
+        Shop x = new Shop();
         int base = Check.grow(x, "0.0(1.1 1.2 1.3)");
         x.move(1, 2, 0);
         int left = x.seal();
@@ -175,7 +175,7 @@ public final class MergeTest {
     }
 
     private static void placesOfNew() {
-        TwigPatch x = new TwigPatch();
+        Shop x = new Shop();
         int base = Check.grow(x, "0.0(1.1)");
         x.node(0, 0, 2, 2, NONE);
         int left = x.seal();
@@ -186,7 +186,7 @@ public final class MergeTest {
     }
 
     private static void lost() {
-        TwigPatch x = new TwigPatch();
+        Shop x = new Shop();
         int base = Check.grow(x, "0.0(1.1 1.2(1.3(1.4)))");
         x.drop(2);
         int left = x.seal();
@@ -209,7 +209,7 @@ public final class MergeTest {
     }
 
     private static void rings() {
-        TwigPatch x = new TwigPatch();
+        Shop x = new Shop();
         int base = Check.grow(x, "0.0(1.1 1.2 1.3)");
         x.move(1, 2, 0);
         int left = x.seal();
@@ -228,7 +228,7 @@ public final class MergeTest {
     }
 
     private static void ringsWithNew() {
-        TwigPatch x = new TwigPatch();
+        Shop x = new Shop();
         int base = Check.grow(x, "0.0(1.1 1.2)");
         x.node(2, 0, 3, 3, NONE);
         x.move(1, 3, 0);
@@ -239,7 +239,7 @@ public final class MergeTest {
     }
 
     private static void ringsAndLost() {
-        TwigPatch x = new TwigPatch();
+        Shop x = new Shop();
         int base = Check.grow(x, "0.0(1.1 1.2(1.3) 1.4(1.5))");
         // 3 and 5 go under each other; 2 and 4 are dropped on one side, and not touched on the other.
         x.move(3, 5, 0);
@@ -253,7 +253,7 @@ public final class MergeTest {
     }
 
     private static void orders() {
-        TwigPatch x = new TwigPatch();
+        Shop x = new Shop();
         int base = Check.grow(x, "0.0(1.1 1.2 1.3 1.4)");
         x.move(4, 0, 0);
         x.move(2, 0, 3);
@@ -270,7 +270,7 @@ public final class MergeTest {
     }
 
     private static void ordersThatAgree() {
-        TwigPatch x = new TwigPatch();
+        Shop x = new Shop();
         int base = Check.grow(x, "0.0(1.1 1.2 1.3 1.4)");
         x.move(3, 0, 0);
         x.node(0, 1, 2, 5, NONE);
@@ -282,7 +282,7 @@ public final class MergeTest {
     }
 
     private static void ordersByPolicy() {
-        TwigPatch x = new TwigPatch();
+        Shop x = new Shop();
         int base = Check.grow(x, "0.0(1.1 1.2 1.3)");
         x.move(3, 0, 0);
         x.node(0, 1, 2, 4, NONE);
@@ -300,7 +300,7 @@ public final class MergeTest {
 
     /** The orders agree but for one child that each side alone has there. */
     private static void ordersOfOthers() {
-        TwigPatch x = new TwigPatch();
+        Shop x = new Shop();
         int base = Check.grow(x, "0.0(1.1 1.2 1.3 1.4)");
         x.drop(2);
         x.set(1, 9);
@@ -320,7 +320,7 @@ public final class MergeTest {
 
     /** Children that the side whose order is taken does not have there come behind those of the base. */
     private static void ordersOfFewer() {
-        TwigPatch x = new TwigPatch();
+        Shop x = new Shop();
         int base = Check.grow(x, "0.0(1.1 1.2 1.3 1.4 1.5)");
         x.drop(1);
         x.drop(3);
@@ -343,7 +343,7 @@ public final class MergeTest {
     }
 
     private static void others() {
-        TwigPatch x = new TwigPatch();
+        Shop x = new Shop();
         int base = Check.grow(x, "0.0(1.1 1.2 1.3(1.4))");
         x.node(0, 2, 2, 5, NONE);
         x.node(0, 3, 2, 6, NONE);
@@ -361,7 +361,7 @@ public final class MergeTest {
     }
 
     private static void othersOfBoth() {
-        TwigPatch x = new TwigPatch();
+        Shop x = new Shop();
         int base = Check.grow(x, "0.0(1.1 1.2)");
         x.node(0, 2, 2, 3, NONE);
         int left = x.seal();
@@ -381,7 +381,7 @@ public final class MergeTest {
     }
 
     private static void withoutOrder() {
-        TwigPatch x = new TwigPatch();
+        Shop x = new Shop();
         int base = Check.grow(x, "5.0(1.1 4.2(1.3) 1.4)");
         x.node(2, 0, 2, 5, NONE);
         x.move(4, 2, 0);
@@ -393,7 +393,7 @@ public final class MergeTest {
     }
 
     private static void listsInOrder() {
-        TwigPatch x = new TwigPatch();
+        Shop x = new Shop();
         int base = Check.grow(x, "0.0(1.1(1.2 1.3) 1.4(1.5 1.6) 1.7 1.8 1.9)");
         x.set(9, 1);
         x.set(1, 1);
@@ -437,7 +437,7 @@ public final class MergeTest {
     }
 
     private static void ordersInOrder() {
-        TwigPatch x = new TwigPatch();
+        Shop x = new Shop();
         int base = Check.grow(x, "0.0(1.1(1.2 1.3 1.4) 1.5(1.6 1.7 1.8))");
         x.move(1, 0, 1);
         x.move(2, 1, 2);
@@ -451,7 +451,7 @@ public final class MergeTest {
     }
 
     private static void wrongly() {
-        TwigPatch x = new TwigPatch();
+        Shop x = new Shop();
         int base = Check.grow(x, "0.0(1.1)");
         x.set(1, 2);
         int left = x.seal();

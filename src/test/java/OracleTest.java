@@ -1,15 +1,22 @@
 import java.util.function.Supplier;
+import java.util.regex.Pattern;
 
 /** Random runs, the same each time, in which the program and the model have to answer alike. */
 public final class OracleTest {
     private static final int RUNS = 1500;
     private static final int ROUNDS = 30;
+    /** Beyond these, a run makes no more rounds, so that there are calls left for questions. */
+    private static final int MANY_CHANGES = 350;
+    private static final int REFUSALS = 20;
+    private static final Pattern CHANGING = Pattern.compile(
+            "(begin|copy|node|set|move|drop|seal|find|turn|apply|setPolicy|merge|version|mergeVersions|takeBack)\\(.*");
 
     private long seed;
-    private TwigPatch x;
+    private Shop x;
     private Model m;
     private int run;
     private int wrong;
+    private int refused;
     private final StringBuilder log = new StringBuilder();
 
     public static void main(String[] args) {
@@ -55,21 +62,37 @@ public final class OracleTest {
                 System.out.println(log);
             }
         }
+        if (want.matches("[a-z]+") && !want.matches("true|false")) {
+            seeThatNothingChanged(call, ours);
+        }
         return want;
+    }
+
+    /** Some of the refused calls are made once more, to see that they change nothing. */
+    private void seeThatNothingChanged(String call, Supplier<Object> ours) {
+        if (x.changes() > MANY_CHANGES || !CHANGING.matcher(call).matches()) {
+            return;
+        }
+        refused++;
+        String difference = refused % REFUSALS == 0 ? x.difference(ours) : "";
+        if (!difference.isEmpty()) {
+            wrong++;
+            System.out.println("run " + run + ": after " + call + ", which was refused, " + difference);
+        }
     }
 
     private void play(int number) {
         run = number;
         seed = number * 7919L + 17;
         below(2);
-        x = new TwigPatch();
+        x = new Shop();
         m = new Model();
         log.setLength(0);
         int style = below(4);
         if (sometimes(3)) {
             anyCall(style);
         }
-        for (int i = 0; i < ROUNDS && wrong == 0 && m.trees.size() < 40; i++) {
+        for (int i = 0; i < ROUNDS && wrong == 0 && m.trees.size() < 40 && x.changes() < MANY_CHANGES; i++) {
             if (m.trees.isEmpty() || sometimes(12)) {
                 growNew(style);
             } else if (sometimes(6)) {

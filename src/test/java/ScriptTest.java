@@ -16,7 +16,7 @@ public final class ScriptTest {
     }
 
     /** Finds a script, compares it, and sees that it leads from one tree to the other and back. */
-    private static void found(TwigPatch x, int from, int to, String due) {
+    private static void found(Shop x, int from, int to, String due) {
         int script = x.find(from, to);
         Check.is("script", Check.script(x, script), due);
         int there = x.apply(script, from);
@@ -28,7 +28,7 @@ public final class ScriptTest {
     }
 
     private static void updates() {
-        TwigPatch x = new TwigPatch();
+        Shop x = new Shop();
         int one = Check.grow(x, "0.0(1.1 1.2(1.3))");
         x.copy(one);
         x.set(1, 8);
@@ -42,7 +42,7 @@ public final class ScriptTest {
     }
 
     private static void puts() {
-        TwigPatch x = new TwigPatch();
+        Shop x = new Shop();
         int one = Check.grow(x, "0.0(1.1)");
         x.copy(one);
         x.node(0, 0, 2, 5, NONE);
@@ -53,7 +53,7 @@ public final class ScriptTest {
     }
 
     private static void moves() {
-        TwigPatch x = new TwigPatch();
+        Shop x = new Shop();
         int one = Check.grow(x, "0.0(1.1 1.2 1.3 1.4(2.5))");
         x.copy(one);
         x.move(4, 0, 0);
@@ -73,7 +73,7 @@ public final class ScriptTest {
     }
 
     private static void removes() {
-        TwigPatch x = new TwigPatch();
+        Shop x = new Shop();
         int one = Check.grow(x, "0.0(1.1(2.2 2.3) 1.4 1.5)");
         x.copy(one);
         x.drop(1);
@@ -86,7 +86,7 @@ public final class ScriptTest {
     }
 
     private static void withoutOrder() {
-        TwigPatch x = new TwigPatch();
+        Shop x = new Shop();
         int one = Check.grow(x, "0.0(4.1(1.2 1.3 1.4) 2.5(1.6))");
         x.copy(one);
         x.move(6, 1, 0);
@@ -106,7 +106,7 @@ public final class ScriptTest {
     }
 
     private static void betweenStrangers() {
-        TwigPatch x = new TwigPatch();
+        Shop x = new Shop();
         int one = Check.grow(x, "0.1(1.5#7(2.8) 1.6(2.9))");
         int two = Check.grow(x, "0.2(1.6(2.9 3.1#4) 1.5#7(2.3))");
         found(x, one, two, "update 0, update 2, put 8 under 3 behind 4, move 1 under 0 behind 3");
@@ -118,7 +118,7 @@ public final class ScriptTest {
     }
 
     private static void turns() {
-        TwigPatch x = new TwigPatch();
+        Shop x = new Shop();
         int one = Check.grow(x, "0.0(1.1 1.2 1.3(2.4))");
         x.copy(one);
         x.set(2, 9);
@@ -147,7 +147,7 @@ public final class ScriptTest {
     }
 
     private static void reads() {
-        TwigPatch x = new TwigPatch();
+        Shop x = new Shop();
         int one = Check.grow(x, "0.0(1.1 1.2 1.3)");
         x.copy(one);
         x.set(0, 1);
@@ -181,7 +181,7 @@ public final class ScriptTest {
     }
 
     private static void wrongly() {
-        TwigPatch x = new TwigPatch();
+        Shop x = new Shop();
         Check.grow(x, "0.0");
         Check.grow(x, "1.0");
         Check.grow(x, "0.0#0");

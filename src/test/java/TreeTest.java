@@ -12,7 +12,7 @@ public final class TreeTest {
     }
 
     private static void counts() {
-        TwigPatch x = new TwigPatch();
+        Shop x = new Shop();
         Check.is("trees", x.trees(), 0);
         int one = Check.grow(x, "0.0");
         Check.is("trees", x.trees(), 1);
@@ -30,7 +30,7 @@ public final class TreeTest {
     }
 
     private static void tells() {
-        TwigPatch x = new TwigPatch();
+        Shop x = new Shop();
         int one = Check.grow(x, "0.9(1.1(1.2) 4.3(1.4 1.5))");
         Check.draft(x, "0.0(1.7)");
         int[] order = {0, 1, 2, 3, 4, 5};
@@ -64,7 +64,7 @@ public final class TreeTest {
     }
 
     private static void alike(String one, String two, boolean due) {
-        TwigPatch x = new TwigPatch();
+        Shop x = new Shop();
         int a = Check.grow(x, one);
         int b = Check.grow(x, two);
         Check.is(one + " alike " + two, x.areAlike(a, b), due);
@@ -86,7 +86,7 @@ public final class TreeTest {
         alike("0.1(1.1 1.1)", "0.1(1.1)", false);
         alike("0.1(1.1(1.1))", "0.1(1.1 1.1)", false);
         alike("0.1(1.1(1.2) 1.1)", "0.1(1.1 1.1(1.2))", false);
-        TwigPatch x = new TwigPatch();
+        Shop x = new Shop();
         Check.grow(x, "0.1");
         Check.index(x, "areAlike(0, 1)", () -> x.areAlike(0, 1));
         Check.index(x, "areAlike(1, 0)", () -> x.areAlike(1, 0));
@@ -105,7 +105,7 @@ public final class TreeTest {
     }
 
     private static void tellsSame() {
-        TwigPatch x = new TwigPatch();
+        Shop x = new Shop();
         int one = Check.grow(x, "0.1(1.2 1.3(1.4))");
         x.copy(one);
         Check.is("a copy", x.areSame(one, x.seal()), true);
