@@ -567,10 +567,19 @@ public final class TwigPatch {
 
         void push(int number) {
             if (used >= cells.length) {
-                cells = Arrays.copyOf(cells, 2 * cells.length + 1);
+                lengthen();
             }
-            put(used, number);
-            used++;
+            if (used < cells.length) {
+                cells[used] = number;
+                used++;
+            }
+        }
+
+        private void lengthen() {
+            int longer = 2 * cells.length + 1;
+            if (longer > cells.length) {
+                cells = Arrays.copyOf(cells, longer);
+            }
         }
 
         boolean hasSamePushed(Row other) {
